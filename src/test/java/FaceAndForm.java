@@ -1,0 +1,95 @@
+import java.lang.reflect.Constructor;
+import java.lang.reflect.Field;
+import java.lang.reflect.Method;
+import java.lang.reflect.Modifier;
+import java.util.Set;
+import java.util.TreeSet;
+
+/** The members of the class are those of the document's face, and no other one can be seen from outside. */
+public final class FaceAndForm {
+    private static int wrong = 0;
+
+    private static void due(String what, Object got, Object want) {
+        if (!got.equals(want)) {
+            wrong++;
+            System.out.println(what + " is " + got + ", due is " + want);
+        }
+    }
+
+    public static void main(String[] args) throws IllegalAccessException {
+        int modifiers = TurntableHouse.class.getModifiers();
+        due("public and final", Modifier.isPublic(modifiers) && Modifier.isFinal(modifiers), true);
+        due("constructors", constructors(), "[public()]");
+        due("methods", methods().toString(), "[addLocomotive(int,int), fewestTurns(int,int), freeLength(int), "
+                + "locomotives(), log(int), moveIn(int,int), moveOut(int,int), place(int), plan(int,int,int), "
+                + "pointsTo(int), removeLocomotive(), restore(int), row(int,int), save(int), setDead(int,boolean), "
+                + "setTableLength(int), setTrack(int,int), trackLength(int), turn(int), turnsMade(), undo()]");
+        due("constants", constants().toString(), "[ALL_DEAD=-7, BAD_VALUE=-4, END_A=0, END_B=1, NONE=-11, "
+                + "NOT_EMPTY=-5, NOT_SAVED=-10, NO_ROOM=-8, NO_SUCH_LOCOMOTIVE=-3, NO_SUCH_POSITION=-1, "
+                + "NO_SUCH_TRACK=-2, TABLE=12, TOO_FEW=-6, TOO_MANY=-9]");
+        checkPrivateNames();
+        checkClassesInside();
+        if (wrong != 0) {
+            System.exit(1);
+        }
+    }
+
+    private static String constructors() {
+        Set<String> all = new TreeSet<>();
+        for (Constructor<?> c : TurntableHouse.class.getDeclaredConstructors()) {
+            all.add(Modifier.toString(c.getModifiers()) + "(" + parameters(c.getParameterTypes()) + ")");
+        }
+        return all.toString();
+    }
+
+    private static Set<String> methods() {
+        Set<String> visible = new TreeSet<>();
+        for (Method m : TurntableHouse.class.getDeclaredMethods()) {
+            if (!Modifier.isPrivate(m.getModifiers())) {
+                visible.add(m.getName() + "(" + parameters(m.getParameterTypes()) + ")");
+                due(m.getName() + " modifiers", Modifier.toString(m.getModifiers()), "public");
+                due(m.getName() + " type", m.getReturnType(), int.class);
+            }
+        }
+        return visible;
+    }
+
+    private static Set<String> constants() throws IllegalAccessException {
+        Set<String> visible = new TreeSet<>();
+        for (Field f : TurntableHouse.class.getDeclaredFields()) {
+            if (!Modifier.isPrivate(f.getModifiers())) {
+                due(f.getName() + " modifiers", Modifier.toString(f.getModifiers()), "public static final");
+                visible.add(f.getName() + "=" + f.getInt(null));
+            }
+        }
+        return visible;
+    }
+
+    private static void checkPrivateNames() {
+        Set<String> open = new TreeSet<>();
+        for (Method m : TurntableHouse.class.getMethods()) {
+            open.add(m.getName());
+        }
+        for (Method m : TurntableHouse.class.getDeclaredMethods()) {
+            due(m.getName() + " is private and bears a public name",
+                    Modifier.isPrivate(m.getModifiers()) && open.contains(m.getName()), false);
+        }
+    }
+
+    private static void checkClassesInside() {
+        for (Class<?> inside : TurntableHouse.class.getDeclaredClasses()) {
+            int modifiers = inside.getModifiers();
+            due(inside.getName() + " is static", Modifier.isStatic(modifiers), true);
+            due(inside.getName() + " is open",
+                    Modifier.isPublic(modifiers) || Modifier.isProtected(modifiers), false);
+        }
+    }
+
+    private static String parameters(Class<?>[] types) {
+        StringBuilder text = new StringBuilder();
+        for (Class<?> type : types) {
+            text.append(text.length() == 0 ? "" : ",").append(type.getName());
+        }
+        return text.toString();
+    }
+}
