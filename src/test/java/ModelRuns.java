@@ -584,11 +584,40 @@ public final class ModelRuns {
         }
     }
 
+    /** Little room, so that the plans get long; all of them, from several situations of one house. */
+    private static void puzzle(Run run) {
+        int tracks = run.between(3, 5);
+        for (int i = 0; i < tracks; i++) {
+            run.call(0, run.below(12), run.between(9, 32), 0);
+        }
+        run.call(1, run.between(10, 30), 0, 0);
+        for (int i = 0; i < 6 && run.model.now.size.size() < 3; i++) {
+            run.call(2, run.between(5, 12), run.aTrack(), 0);
+        }
+        run.call(4, run.below(3), run.below(2), 0);
+        while (run.made < 500 && !run.failed) {
+            for (int l = 0; l < run.model.now.size.size(); l++) {
+                run.planWhole(l, run.aTrack());
+            }
+            for (int i = 0; i < 4; i++) {
+                run.pointAndMove();
+            }
+            if (run.below(4) == 0) {
+                run.call(4, run.below(3), run.below(2), 0);
+            }
+        }
+    }
+
     public static void main(String[] args) {
         int runs = args.length > 0 ? Integer.parseInt(args[0]) : 400;
         int calls = 0;
         for (int number = 0; number < runs; number++) {
             Run run = new Run(number);
+            if (number % 3 == 2) {
+                puzzle(run);
+                calls += run.made;
+                continue;
+            }
             boolean plans = number % 2 == 0;
             run.build(plans ? run.between(1, 5) : run.between(1, 9), plans ? run.between(1, 3) : run.between(0, 8));
             int steps = plans ? 60 : 300;
