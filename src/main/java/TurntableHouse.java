@@ -32,7 +32,8 @@ public final class TurntableHouse {
     private static final int MOST_NEIGHBOURS = 2 + 4 * MOST_PLANNED_LOCOMOTIVES;
     /** Above every number of actions of a best plan, which meets no state twice. */
     private static final int TURN_WEIGHT = 10000;
-    private static final int UNREACHED = Integer.MAX_VALUE;
+    /** Above every cost: a best plan has fewer than MOST_STATES turns. */
+    private static final int UNREACHED = 1000000000;
 
     private final Yard yard;
     private final Yard[] slots;
@@ -299,7 +300,7 @@ public final class TurntableHouse {
 
     /** What the log and the planner hold is true only as long as the house itself stays as it is. */
     private void houseChanges() {
-        actions.count = 0;
+        actions.forgetAll();
         if (planner != null) {
             planner.forgetGoal();
         }
@@ -561,6 +562,10 @@ public final class TurntableHouse {
             }
         }
 
+        void forgetAll() {
+            count = 0;
+        }
+
         int latest(int index) {
             return index >= 0 && index < count && count <= MOST_LOGGED ? codes[count - 1 - index] : NONE;
         }
@@ -574,7 +579,7 @@ public final class TurntableHouse {
         }
     }
 
-    /** States in the order in which they were added; each is added at most once between two resets. */
+    /** States in the order in which they were added. A search adds none twice, as its costs only rise. */
     private static final class StateQueue {
         private final int[] states;
         private int head;
@@ -611,11 +616,12 @@ public final class TurntableHouse {
 
     /**
      * Finds what the best plan from a state costs: TURN_WEIGHT for each turn and 1 for each action.
-     * It searches from the goal, since every action can be reversed at the same cost. The costs then hold
+     * It searches from the goal, since every action can be reversed at the same cost; so the costs hold
      * for every present situation, until the house or the goal changes.
      *
-     * A state is a number made of the position of end A and, for each locomotive its slot, which is where it is put
-     * in when the locomotives are put one by one into one line of all the rows.
+     * A state is a number made of the position of end A and of one number for each locomotive: where it is put
+     * when the locomotives are put one by one into a line of all the rows. No two states share a number, and none
+     * is left out, which keeps the tables small.
      */
     private static final class Planner {
         private final Yard view;
@@ -624,7 +630,7 @@ public final class TurntableHouse {
         private final int[] codes;
         private final int[] neighbours;
         private final int[] costs;
-        /** Both are in the order of costs, because each adds the same amount to costs that only rise. */
+        /** Each is in the order of costs, because what it gets has the same amount added to costs that only rise. */
         private final StateQueue afterTurns;
         private final StateQueue afterMovements;
         private int placeCount;

@@ -1,11 +1,15 @@
+import java.io.IOException;
 import java.lang.reflect.Constructor;
 import java.lang.reflect.Field;
 import java.lang.reflect.Method;
 import java.lang.reflect.Modifier;
+import java.nio.file.Files;
+import java.nio.file.Path;
 import java.util.Set;
 import java.util.TreeSet;
+import java.util.regex.Pattern;
 
-/** The members of the class are those of the document's face, and no other one can be seen from outside. */
+/** The class shows the document's face and nothing else, and its source keeps to the words that are allowed. */
 public final class FaceAndForm {
     private static int wrong = 0;
 
@@ -16,7 +20,7 @@ public final class FaceAndForm {
         }
     }
 
-    public static void main(String[] args) throws IllegalAccessException {
+    public static void main(String[] args) throws IllegalAccessException, IOException {
         int modifiers = TurntableHouse.class.getModifiers();
         due("public and final", Modifier.isPublic(modifiers) && Modifier.isFinal(modifiers), true);
         due("constructors", constructors(), "[public()]");
@@ -29,6 +33,7 @@ public final class FaceAndForm {
                 + "NO_SUCH_TRACK=-2, TABLE=12, TOO_FEW=-6, TOO_MANY=-9]");
         checkPrivateNames();
         checkClassesInside();
+        checkSource();
         if (wrong != 0) {
             System.exit(1);
         }
@@ -82,6 +87,18 @@ public final class FaceAndForm {
             due(inside.getName() + " is static", Modifier.isStatic(modifiers), true);
             due(inside.getName() + " is open",
                     Modifier.isPublic(modifiers) || Modifier.isProtected(modifiers), false);
+        }
+    }
+
+    /** Words that LANGUAGE.md leaves out; .ci/run starts the tests in the project's folder. */
+    private static void checkSource() throws IOException {
+        String source = Files.readString(Path.of("src/main/java/TurntableHouse.java"));
+        String code = source.replaceAll("(?s)/\\*.*?\\*/", "").replaceAll("//[^\n]*", "");
+        String[] banned = {"\\bthrow\\b", "\\btry\\b", "\\bcatch\\b", "\\bsynchronized\\b", "\\bassert\\b", "->", "::",
+            "Exact\\(", "\\bhashCode\\b", "\\btoString\\b", "\\bpackage\\b", "\\bSystem\\.(?!arraycopy)",
+            "import (?!java\\.util\\.Arrays;)", "MAX_VALUE", "MIN_VALUE", "\\bstatic \\{"};
+        for (String word : banned) {
+            due("the source has " + word, Pattern.compile(word).matcher(code).find(), false);
         }
     }
 

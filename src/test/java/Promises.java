@@ -586,6 +586,14 @@ public final class Promises {
         x.save(2);
         x.fewestTurns(0, 0);
         x.plan(0, 0, 0);
+        TurntableHouse full = new TurntableHouse();
+        full.setTrack(0, 60);
+        for (int i = 0; i < 8; i++) {
+            full.addLocomotive(1, 0);
+        }
+        full.turn(1);
+        full.addLocomotive(1, 0);
+        due(18, "log(-1) after TOO_MANY", full.log(-1), 1);
         due(18, "log(-1) after errors, save and plans", x.log(-1), 1);
     }
 
@@ -626,6 +634,19 @@ public final class Promises {
         due(19, "fewestTurns(1,0) with 6 tracks, already there", x.fewestTurns(1, 0), -9);
         due(19, "fewestTurns(3,0) with 6 tracks", x.fewestTurns(3, 0), -3);
         due(19, "fewestTurns(0,12) with 6 tracks", x.fewestTurns(0, 12), -1);
+        TurntableHouse small = new TurntableHouse();
+        small.setTableLength(1);
+        small.setTrack(0, 1);
+        small.setTrack(4, 1);
+        small.setTrack(7, 1);
+        small.addLocomotive(1, 0);
+        due(19, "fewestTurns(0,4) with lengths of 1", small.fewestTurns(0, 4), 2);
+        due(19, "fewestTurns(0,7) with lengths of 1", small.fewestTurns(0, 7), 1);
+        small.setTrack(1, 1);
+        small.setTrack(2, 1);
+        due(19, "fewestTurns(0,4) with 5 of length 1", small.fewestTurns(0, 4), 2);
+        small.setTrack(3, 1);
+        due(19, "fewestTurns(0,4) with 6 of length 1", small.fewestTurns(0, 4), -9);
     }
 
     private static void fewestTurnsAfterChanges() {
