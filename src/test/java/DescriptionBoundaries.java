@@ -450,6 +450,20 @@ public final class DescriptionBoundaries {
         }
     }
 
+    private static void plansOverLengthsOf1() {
+        says("At each position there can be a track, which has a length from 1 to 60");
+        TurntableHouse x = new TurntableHouse();
+        x.setTableLength(1);
+        x.setTrack(0, 1);
+        x.setTrack(2, 1);
+        x.setTrack(7, 1);
+        x.addLocomotive(1, 0);
+        due("the plan to end A", planOf(x, 0, 2), List.of(11, 0, 0, 31));
+        due("the plan to end B", planOf(x, 0, 7), List.of(11, 0, 41));
+        x.turn(6);
+        due("the plan from end B", planOf(x, 0, 2), List.of(21, 0, 0, 41));
+    }
+
     private static void lengthOfTheTable() {
         says("The table has a length from 1 to 60, initially 30, and two ends, END_A and END_B.");
         TurntableHouse x = new TurntableHouse();
@@ -516,6 +530,19 @@ public final class DescriptionBoundaries {
         due("setDead(0,false) of a dead one", x.setDead(0, false), 1);
     }
 
+    private static void eachStandsSomewhere() {
+        says("Each one stands on a track or on the table.");
+        TurntableHouse x = withTracks(0, 11);
+        add(x, 4, 5, 0);
+        add(x, 4, 5, 11);
+        x.moveIn(A, 2);
+        int[] places = {0, 0, TABLE, TABLE, 11, 11, 11, 11};
+        for (int locomotive = 0; locomotive < 8; locomotive++) {
+            due("place(" + locomotive + ")", x.place(locomotive), places[locomotive]);
+        }
+        due("the sum of the rows", x.row(0, -1) + x.row(11, -1) + x.row(TABLE, -1), 8);
+    }
+
     private static void rowOnATrack() {
         says("The locomotives on a track form a row that is numbered from 0, "
                 + "beginning with the one nearest to the table.");
@@ -571,6 +598,47 @@ public final class DescriptionBoundaries {
         due("freeLength(6)", x.freeLength(6), 0);
     }
 
+    /** To every position: a locomotive of 10 comes from the opposite track to stand before one of 5. */
+    private static void sumOfLengthsInPlans() {
+        says("The sum of the lengths of the locomotives on a track, or on the table, "
+                + "is never greater than its length.");
+        for (int goal = 0; goal < 12; goal++) {
+            int start = (goal + 6) % 12;
+            TurntableHouse x = new TurntableHouse();
+            x.setTableLength(10);
+            x.setTrack(goal, 15);
+            x.setTrack(start, 10);
+            x.addLocomotive(5, goal);
+            x.addLocomotive(10, start);
+            int toEnd = Math.min(start % 6, 6 - start % 6);
+            due("fewestTurns(1," + goal + "), both just fit", x.fewestTurns(1, goal), toEnd);
+            x.setTrack(goal, 14);
+            due("fewestTurns(1," + goal + "), both are one too long", x.fewestTurns(1, goal), NONE);
+            x.setDead(0, true);
+            due("fewestTurns(1," + goal + "), one too long, and dead", x.fewestTurns(1, goal), NONE);
+            x.setTrack(goal, 9);
+            due("fewestTurns(1," + goal + "), alone one too long", x.fewestTurns(1, goal), NONE);
+        }
+    }
+
+    private static void sumOfLengthsOnTheTableInPlans() {
+        says("The sum of the lengths of the locomotives on a track, or on the table, "
+                + "is never greater than its length.");
+        TurntableHouse x = new TurntableHouse();
+        x.setTrack(0, 15);
+        x.setTrack(3, 10);
+        x.addLocomotive(10, 0);
+        x.addLocomotive(5, 0);
+        x.setTableLength(15);
+        due("the plan with both on the table", planOf(x, 0, 3), List.of(12, 0, 0, 0, 31));
+        x.setTableLength(14);
+        due("fewestTurns(0,3), both are one too long", x.fewestTurns(0, 3), NONE);
+        due("fewestTurns(1,3), which goes alone", x.fewestTurns(1, 3), 3);
+        due("fewestTurns(0,0), when the other one has gone in", x.fewestTurns(0, 0), 0);
+        x.setTableLength(4);
+        due("fewestTurns(0,0), the other one is one too long", x.fewestTurns(0, 0), NONE);
+    }
+
     // ---- ACTIONS
 
     private static void clockwise() {
@@ -597,6 +665,17 @@ public final class DescriptionBoundaries {
         due("turn(-11) from 0", x.turn(-11), 1);
     }
 
+    private static void firstOfTheTrack() {
+        says("the first k locomotives of the row on the track to which the end points move onto the table.");
+        for (int count = 1; count <= 8; count++) {
+            TurntableHouse x = withTracks(0);
+            add(x, 8, 7, 0);
+            due("moveIn(0," + count + ")", x.moveIn(A, count), count);
+            due("the track", row(x, 0), "76543210".substring(count));
+            due("the table", row(x, TABLE), "01234567".substring(8 - count));
+        }
+    }
+
     private static void inAtAnEnd() {
         says("They enter at this end and keep their order: the one that was nearest to the table goes farthest in, "
                 + "next to the locomotives that are on the table already.");
@@ -616,6 +695,23 @@ public final class DescriptionBoundaries {
         due("moveIn(1,2) onto the empty table", y.moveIn(B, 2), 2);
         due("the table", row(y, TABLE), "21");
         due("the track", row(y, 6), "0");
+    }
+
+    private static void nearestToTheEnd() {
+        says("the k locomotives on the table that are nearest to this end "
+                + "move onto the track to which the end points.");
+        for (int count = 1; count <= 8; count++) {
+            TurntableHouse x = withTracks(0, 6);
+            add(x, 8, 7, 0);
+            x.moveIn(A, 8);
+            due("moveOut(0," + count + ")", x.moveOut(A, count), count);
+            due("the track at end A", row(x, 0), "76543210".substring(8 - count));
+            due("the table", row(x, TABLE), "01234567".substring(count));
+            x.undo();
+            due("moveOut(1," + count + ")", x.moveOut(B, count), count);
+            due("the track at end B", row(x, 6), "01234567".substring(8 - count));
+            due("the table", row(x, TABLE), "01234567".substring(0, 8 - count));
+        }
     }
 
     private static void outAtAnEnd() {
@@ -805,8 +901,8 @@ public final class DescriptionBoundaries {
     }
 
     private static void emptyingTheLog() {
-        says("The log is emptied by every call of setTrack, setTableLength, addLocomotive, removeLocomotive, setDead or "
-                + "restore that returns neither an error nor NONE, also if nothing has another value then.");
+        says("The log is emptied by every call of setTrack, setTableLength, addLocomotive, removeLocomotive, setDead "
+                + "or restore that returns neither an error nor NONE, also if nothing has another value then.");
         empties("setTrack(0,40): the same length", x -> x.setTrack(0, 40), 40);
         empties("setTrack(0,10): another length", x -> x.setTrack(0, 10), 40);
         empties("setTrack(11,0): no track as before", x -> x.setTrack(11, 0), 0);

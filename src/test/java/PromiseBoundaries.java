@@ -222,7 +222,7 @@ public final class PromiseBoundaries {
     // ---- Promise 3: setTableLength
 
     private static void tableLengths() {
-        says(3, "length: 1 to 60; returns the previous length");
+        says(3, "length: 1 to 60 Returns the previous length");
         TurntableHouse x = new TurntableHouse();
         due("setTableLength(1)", x.setTableLength(1), 30);
         due("freeLength(12)", x.freeLength(TABLE), 1);
@@ -483,6 +483,19 @@ public final class PromiseBoundaries {
         due("trackLength(11) of a removed track", x.trackLength(11), 0);
     }
 
+    private static void trackLengthPositions() {
+        says(8, "position: 0 to 11");
+        TurntableHouse x = new TurntableHouse();
+        for (int position = 0; position < 12; position++) {
+            x.setTrack(position, position + 1);
+        }
+        for (int position = 0; position < 12; position++) {
+            due("trackLength(" + position + ")", x.trackLength(position), position + 1);
+        }
+        due("trackLength(12): the table is no position", x.trackLength(TABLE), NO_SUCH_POSITION);
+        due("trackLength(-1)", x.trackLength(-1), NO_SUCH_POSITION);
+    }
+
     private static void trackLengthNoPosition() {
         says(8, "NO_SUCH_POSITION if the position does not exist");
         TurntableHouse x = house();
@@ -507,6 +520,24 @@ public final class PromiseBoundaries {
         due("freeLength(0) of an emptied track", x.freeLength(0), 40);
         x.setTrack(11, 3);
         due("freeLength(11)", x.freeLength(11), 3);
+    }
+
+    private static void freeLengthPlaces() {
+        says(9, "place: 0 to 11 for the track at this position, TABLE for the table");
+        TurntableHouse x = new TurntableHouse();
+        for (int position = 0; position < 12; position++) {
+            x.setTrack(position, 20 + position);
+        }
+        x.addLocomotive(7, 0);
+        x.addLocomotive(9, 11);
+        due("freeLength(0)", x.freeLength(0), 13);
+        for (int position = 1; position < 11; position++) {
+            due("freeLength(" + position + ")", x.freeLength(position), 20 + position);
+        }
+        due("freeLength(11)", x.freeLength(11), 22);
+        due("freeLength(12)", x.freeLength(TABLE), 30);
+        due("freeLength(13)", x.freeLength(13), NO_SUCH_POSITION);
+        due("freeLength(-1)", x.freeLength(-1), NO_SUCH_POSITION);
     }
 
     private static void freeLengthNoPlace() {
@@ -543,6 +574,24 @@ public final class PromiseBoundaries {
         due("row(12,-1)", x.row(TABLE, -1), 8);
         due("row(12,0)", x.row(TABLE, 0), 0);
         due("row(12,7)", x.row(TABLE, 7), 7);
+    }
+
+    private static void rowPlaces() {
+        says(10, "place: 0 to 11 for the track at this position, TABLE for the table");
+        TurntableHouse x = new TurntableHouse();
+        x.setTrack(0, 10);
+        x.setTrack(1, 10);
+        x.setTrack(11, 10);
+        x.addLocomotive(1, 0);
+        x.addLocomotive(1, 11);
+        x.addLocomotive(1, 0);
+        x.moveIn(A, 1);
+        due("row(0,0)", x.row(0, 0), 0);
+        due("row(1,0)", x.row(1, 0), NONE);
+        due("row(11,0)", x.row(11, 0), 1);
+        due("row(12,0)", x.row(TABLE, 0), 2);
+        due("row(13,0)", x.row(13, 0), NO_SUCH_POSITION);
+        due("row(-1,0)", x.row(-1, 0), NO_SUCH_POSITION);
     }
 
     private static void rowNoPlace() {
@@ -633,6 +682,15 @@ public final class PromiseBoundaries {
         due("pointsTo(1) after a round", x.pointsTo(B), 6);
     }
 
+    private static void pointsToEnds() {
+        says(12, "end: END_A or END_B");
+        TurntableHouse x = new TurntableHouse();
+        due("pointsTo(END_A)", x.pointsTo(TurntableHouse.END_A), 0);
+        due("pointsTo(END_B)", x.pointsTo(TurntableHouse.END_B), 6);
+        due("pointsTo(END_A - 1)", x.pointsTo(TurntableHouse.END_A - 1), BAD_VALUE);
+        due("pointsTo(END_B + 1)", x.pointsTo(TurntableHouse.END_B + 1), BAD_VALUE);
+    }
+
     private static void pointsToNoEnd() {
         says(12, "BAD_VALUE if there is no such end");
         TurntableHouse x = new TurntableHouse();
@@ -681,6 +739,19 @@ public final class PromiseBoundaries {
         TurntableHouse z = house();
         due("moveIn(1,1)", z.moveIn(B, 1), 1);
         due("moveIn(0,1)", z.moveIn(A, 1), 2);
+    }
+
+    private static void moveInRanges() {
+        says(14, "end: END_A or END_B - count: number of locomotives, at least 1");
+        TurntableHouse x = house();
+        due("moveIn(END_A,1)", x.moveIn(TurntableHouse.END_A, 1), 1);
+        due("place(1), from the track at end A", x.place(1), TABLE);
+        due("moveIn(END_B,1)", x.moveIn(TurntableHouse.END_B, 1), 2);
+        due("place(2), from the track at end B", x.place(2), TABLE);
+        due("the table", row(x, TABLE), "12");
+        due("moveIn(END_A,0)", x.moveIn(TurntableHouse.END_A, 0), BAD_VALUE);
+        due("moveIn(END_B + 1,1)", x.moveIn(TurntableHouse.END_B + 1, 1), BAD_VALUE);
+        due("moveIn(END_A - 1,1)", x.moveIn(TurntableHouse.END_A - 1, 1), BAD_VALUE);
     }
 
     private static void moveInBadValue() {
@@ -767,6 +838,19 @@ public final class PromiseBoundaries {
         TurntableHouse y = house();
         y.moveIn(A, 1);
         due("moveOut(1,1) in front of one", y.moveOut(B, 1), 2);
+    }
+
+    private static void moveOutRanges() {
+        says(15, "end: END_A or END_B - count: number of locomotives, at least 1");
+        TurntableHouse x = house();
+        x.moveIn(A, 2);
+        due("moveOut(END_A,0)", x.moveOut(TurntableHouse.END_A, 0), BAD_VALUE);
+        due("moveOut(END_B + 1,1)", x.moveOut(TurntableHouse.END_B + 1, 1), BAD_VALUE);
+        due("moveOut(END_A - 1,1)", x.moveOut(TurntableHouse.END_A - 1, 1), BAD_VALUE);
+        due("moveOut(END_B,1)", x.moveOut(TurntableHouse.END_B, 1), 2);
+        due("the track at end B", row(x, 6), "12");
+        due("moveOut(END_A,1)", x.moveOut(TurntableHouse.END_A, 1), 1);
+        due("the track at end A", row(x, 0), "0");
     }
 
     private static void moveOutBadValue() {
@@ -1205,6 +1289,18 @@ public final class PromiseBoundaries {
         due("pointsTo(0)", x.pointsTo(A), 2);
     }
 
+    private static void saveSlots() {
+        says(21, "slot: 0 or 1");
+        TurntableHouse x = house();
+        due("save(0)", x.save(0), 3);
+        x.removeLocomotive();
+        due("save(1)", x.save(1), 2);
+        due("save(2)", x.save(2), BAD_VALUE);
+        due("save(-1)", x.save(-1), BAD_VALUE);
+        due("restore(0)", x.restore(0), 3);
+        due("restore(1)", x.restore(1), 2);
+    }
+
     private static void saveNoSlot() {
         says(21, "Returns the number of locomotives; BAD_VALUE if the slot does not exist");
         TurntableHouse x = house();
@@ -1249,6 +1345,42 @@ public final class PromiseBoundaries {
         due("restore(1)", x.restore(1), NOT_SAVED);
     }
 
+    /** The same locomotives stand on the same places in another order when the slot is restored. */
+    private static void restoreOrderOfRows() {
+        says(22, "Restores what was saved last in a slot.");
+        for (int position = 0; position < 12; position++) {
+            TurntableHouse x = new TurntableHouse();
+            int opposite = (position + 6) % 12;
+            x.setTrack(position, 60);
+            x.setTrack(opposite, 60);
+            for (int i = 0; i < 8; i++) {
+                x.addLocomotive(3, position);
+            }
+            if (position > 0) {
+                x.turn(position);
+            }
+            x.moveIn(A, 4);
+            x.save(0);
+            due("the table", row(x, TABLE), "4567");
+            x.moveOut(B, 4);
+            x.moveIn(A, 4);
+            x.moveOut(B, 4);
+            x.turn(6);
+            x.moveIn(A, 8);
+            x.moveOut(A, 4);
+            x.turn(6);
+            x.moveOut(A, 4);
+            x.turn(6);
+            x.moveIn(A, 4);
+            due("the table in another order", row(x, TABLE), "7654");
+            due("the track in another order", row(x, position), "0123");
+            x.restore(0);
+            due("the table restored", row(x, TABLE), "4567");
+            due("the track restored", row(x, position), "3210");
+            due("the opposite track restored", row(x, opposite), "");
+        }
+    }
+
     private static void restoreEmptiesTheLog() {
         says(22, "The log is empty then.");
         TurntableHouse x = house();
@@ -1263,6 +1395,22 @@ public final class PromiseBoundaries {
         due("log(0)", x.log(0), NONE);
         due("undo()", x.undo(), NONE);
         due("pointsTo(0)", x.pointsTo(A), 0);
+    }
+
+    private static void restoreSlots() {
+        says(22, "slot: 0 or 1");
+        TurntableHouse x = new TurntableHouse();
+        x.turn(4);
+        x.save(1);
+        x.turn(4);
+        x.save(0);
+        due("restore(1)", x.restore(1), 0);
+        due("pointsTo(0)", x.pointsTo(A), 4);
+        due("restore(0)", x.restore(0), 0);
+        due("pointsTo(0)", x.pointsTo(A), 8);
+        due("restore(2)", x.restore(2), BAD_VALUE);
+        due("restore(-1)", x.restore(-1), BAD_VALUE);
+        due("pointsTo(0)", x.pointsTo(A), 8);
     }
 
     private static void restoreNoSlot() {
